@@ -245,17 +245,22 @@ public final class ReadTest {
     }
 
     private static void whatWasReadBeforeStays() {
+        stays("a wrong kind", Model.gridOf(Model.withChecks(Model.filled("0011", 9)), 3, 2), NO_TEXT);
+        int[] half = Model.withChecks(Model.filled(Model.bitsOf("zz") + "1111", 9));
+        stays("half a text", Model.gridOf(half, 3, 2), NO_TEXT);
+        int[] wrong = Model.withChecks(Model.dataOf("zz", 19));
+        for (int i = 0; i < 4; i++) {
+            wrong[i] ^= 1;
+        }
+        stays("too many wrong bytes", Model.gridOf(wrong, 0, 5), NO_BYTES);
+        stays("nothing", new int[21][21], NO_FORM);
+    }
+
+    private static void stays(String what, int[][] grid, String thrown) {
         SquareCodes x = Codes.written("KEEP", 0, 1);
         Codes.spoil(x, 2, 2);
         x.read();
         int last = x.taken(25);
-        stays(x, last, "2 more", Model.gridOf(Model.withChecks(Model.filled("0011", 9)), 3, 2), NO_TEXT);
-        stays(x, last, "half a text", Model.gridOf(
-            Model.withChecks(Model.filled(Model.bitsOf("zz") + "1111", 9)), 3, 2), NO_TEXT);
-        stays(x, last, "nothing", new int[21][21], NO_FORM);
-    }
-
-    private static void stays(SquareCodes x, int last, String what, int[][] grid, String thrown) {
         Codes.become(x, grid);
         Due.same("read() of " + what, Codes.read(x), thrown);
         Due.same("the text after " + what, Codes.readText(x, 4), "KEEP");

@@ -89,7 +89,8 @@ public final class UglinessTest {
         int[][] grid = new int[21][21];
         for (int i = 0; i < 440; i++) {
             int place = i * 2 % 441;
-            x = i % 60 == 0 ? with(grid) : x;
+            // No object is used for more than 512 calls.
+            x = i % 20 == 0 ? with(grid) : x;
             x.flip(place / 21, place % 21);
             grid[place / 21][place % 21] = 1;
             Due.same("ugliness() of " + (i + 1) + " dark ones", x.ugliness(), Model.uglinessOf(grid));
