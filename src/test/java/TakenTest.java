@@ -13,18 +13,12 @@ public final class TakenTest {
         }
     }
 
-    private static int[] hello() {
-        return new int[] {
-            32, 91, 11, 120, 209, 114, 220, 77, 67, 64, 236, 17, 236,
-            168, 72, 22, 82, 217, 54, 156, 0, 46, 15, 180, 122, 16};
-    }
-
     private static void allBytes() {
         for (int mask = 0; mask < 8; mask++) {
             SquareCodes x = Codes.written("HELLO WORLD", 2, mask);
             Due.same("taken(0) before reading", x.taken(0), -1);
             x.read();
-            takenAre(x, hello());
+            takenAre(x, Known.HELLO);
         }
     }
 
@@ -33,13 +27,13 @@ public final class TakenTest {
         for (int i = 0; i < 6; i++) {
             Codes.spoil(x, 5 * i, i);
             x.read();
-            takenAre(x, hello());
+            takenAre(x, Known.HELLO);
         }
         Codes.spoil(x, 24, 4);
         Due.same("read() of seven wrong bytes", Codes.read(x), "throws.IllegalArgumentException");
-        takenAre(x, hello());
+        takenAre(x, Known.HELLO);
         x.write(3, 1);
-        takenAre(x, hello());
+        takenAre(x, Known.HELLO);
         x.read();
         takenAre(x, Model.withChecks(Model.dataOf("", 9)));
     }

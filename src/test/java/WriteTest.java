@@ -21,9 +21,7 @@ public final class WriteTest {
     }
 
     private static void knownBytes() {
-        bytesOf("HELLO WORLD", 2, new int[] {
-            32, 91, 11, 120, 209, 114, 220, 77, 67, 64, 236, 17, 236,
-            168, 72, 22, 82, 217, 54, 156, 0, 46, 15, 180, 122, 16});
+        bytesOf("HELLO WORLD", 2, Known.HELLO);
         bytesOf("HELLO WORLD", 1, new int[] {
             32, 91, 11, 120, 209, 114, 220, 77, 67, 64, 236, 17, 236, 17, 236, 17,
             196, 35, 39, 119, 235, 215, 231, 226, 93, 23});
