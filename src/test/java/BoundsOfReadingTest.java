@@ -15,6 +15,7 @@ public final class BoundsOfReadingTest {
         wrongBitsOfTheSecondCopy();
         theSecondCopyIsLookedAtLast();
         wrongBytesUpToHalfTheCheckBytes();
+        oneWrongByteMoreOfAnyValue();
         betweenTwoRightOnes();
         howManyBitsAreLeft();
         charactersThatJustEnd();
@@ -128,6 +129,26 @@ public final class BoundsOfReadingTest {
         for (int bit = 0; bit < 8; bit++) {
             if ((change >> (7 - bit) & 1) == 1) {
                 Codes.spoil(x, i, bit);
+            }
+        }
+    }
+
+    /**
+     * With an odd e and e / 2 + 1 wrong bytes, a way that finds wrong bytes by solving equations may
+     * come upon the very ones, for one value of the last in some 256: they are too many all the same.
+     */
+    private static void oneWrongByteMoreOfAnyValue() {
+        for (int level : new int[] {0, 2, 3}) {
+            for (int last = 20; last < 26; last++) {
+                for (int value = 1; value < 256; value++) {
+                    SquareCodes x = Codes.written("R1GHT", level, 2);
+                    for (int i = 0; i < Known.MOST_WRONG[level]; i++) {
+                        changeByte(x, 2 * i, 17 * i + 1);
+                    }
+                    changeByte(x, last, value);
+                    Due.same("read() with byte " + last + " wrong by " + value + ", too, at level " + level,
+                        Codes.read(x), NO_BYTES);
+                }
             }
         }
     }
